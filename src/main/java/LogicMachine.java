@@ -335,7 +335,7 @@ public final class LogicMachine {
         }
         switch (what) {
             case 0:
-                return found.isBarrier() ? NONE : Integer.numberOfTrailingZeros(found.left);
+                return found.isBarrier() ? NONE : lowestOf(found.left);
             case 1:
                 return Integer.bitCount(found.left);
             case 2:
@@ -402,6 +402,11 @@ public final class LogicMachine {
 
     private static int arityOf(long key) {
         return (int) (key & ARITY_MASK);
+    }
+
+    /** The lowest clause of a set of clauses; 32 if there is none. */
+    private static int lowestOf(int set) {
+        return Integer.bitCount((set & -set) - 1);
     }
 
     /** The text, and its parts one after the other. */
@@ -962,7 +967,7 @@ public final class LogicMachine {
         /** The first clause of a predicate, NONE if it has none. */
         int firstOf(long predicate) {
             int found = clausesOf(predicate);
-            return found == 0 ? NONE : Integer.numberOfTrailingZeros(found);
+            return found == 0 ? NONE : lowestOf(found);
         }
 
         int clausesOf(long predicate) {
@@ -1150,11 +1155,15 @@ public final class LogicMachine {
         int find(int ref) {
             int found = ref;
             for (int step = 0; step < SLOTS; step++) {
-                int slot = slotOf(found);
-                if (slot == NONE || bound[slot] == UNBOUND) {
+                int node = found & SPAN_MASK;
+                if (found < 0 || found >= CELLS || node >= VARIABLE_LIMIT) {
                     return found;
                 }
-                found = bound[slot];
+                int binding = bound[(found >> SPAN_BITS) * VARIABLE_LIMIT + node];
+                if (binding == UNBOUND) {
+                    return found;
+                }
+                found = binding;
             }
             return found;
         }
@@ -1187,9 +1196,11 @@ public final class LogicMachine {
 
         /** The key of an atom or compound, the value of an integer. */
         long keyOf(int ref) {
-            if (ref >= 0) {
-                return clauseAt(ref >> SPAN_BITS).keyAt(ref & SPAN_MASK);
-            }
+            return ref < 0 ? computedAt(ref) : clauseAt(ref >> SPAN_BITS).keyAt(ref & SPAN_MASK);
+        }
+
+        /** The value of a computed integer. */
+        int computedAt(int ref) {
             int index = UNBOUND - 1 - ref;
             return index >= 0 && index < computed.length ? computed[index] : 0;
         }
@@ -1427,7 +1438,7 @@ public final class LogicMachine {
                 return false;
             }
             if (binding < 0) {
-                return addValue((int) store.keyOf(binding));
+                return addValue(store.computedAt(binding));
             }
             if (keptIn[slot] == evaluation) {
                 return addValue(kept[slot]);
@@ -1714,7 +1725,7 @@ public final class LogicMachine {
             return true;
         }
 
-        /** Leaves a choice point, even for one candidate: backtracking removes it before the last try. */
+        /** Leaves a choice point, even for one candidate: backtracking removes it before it takes the last. */
         private void callUser(int goal) {
             long predicate = store.keyOf(goal);
             int kind = NO_TERM;
@@ -1749,7 +1760,7 @@ public final class LogicMachine {
             store.older = count > 0 && count <= choices.length ? choices[count - 1].instances : 0;
         }
 
-        /** Goes to the newest choice point, again and again until a try or a not succeeds. */
+        /** Goes to the newest choice point, again and again until a candidate or a not succeeds. */
         private void backtrack() {
             for (int step = 0; step < STEP_LIMIT; step++) {
                 int older = choiceCount - 1;
@@ -1761,7 +1772,7 @@ public final class LogicMachine {
                 store.goBack(choice.instances, choice.trailed);
                 framesUsed = choice.framesUsed;
                 top = choice.top;
-                int candidate = Integer.numberOfTrailingZeros(choice.left);
+                int candidate = lowestOf(choice.left);
                 choice.left &= choice.left - 1;
                 if (choice.left == 0) {
                     keepChoices(older);

@@ -1,0 +1,118 @@
+/** What the tests of the project have in common: answers that are due, and texts that are typed and shown. */
+class Checks {
+    private static int wrong;
+    private static int checked;
+
+    final String name;
+    final LogicMachine m;
+
+    Checks(String name) {
+        this.name = name;
+        m = new LogicMachine();
+    }
+
+    void due(String call, long got, long want) {
+        checked++;
+        if (got != want) {
+            wrong++;
+            System.out.println(name + ": " + call + " answered " + got + ", due is " + want);
+        }
+    }
+
+    void due(String call, String got, String want) {
+        checked++;
+        if (!got.equals(want)) {
+            wrong++;
+            System.out.println(name + ": " + call + " answered '" + got + "', due is '" + want + "'");
+        }
+    }
+
+    /** Puts this text in place of the present one. */
+    Checks type(String text) {
+        m.wipe();
+        for (char c : text.toCharArray()) {
+            m.write(c);
+        }
+        due("told(4) after " + text, m.told(4), text.length());
+        return this;
+    }
+
+    Checks consult(String text, int want) {
+        type(text);
+        due("consult() of " + text, m.consult(), want);
+        return this;
+    }
+
+    Checks retractAll() {
+        for (int left = m.told(0); left > 0; left--) {
+            due("retract(0)", m.retract(0), left - 1);
+        }
+        return this;
+    }
+
+    Checks ask(String text, int want) {
+        type(text);
+        due("ask() of " + text, m.ask(), want);
+        return this;
+    }
+
+    Checks run(int n, int want) {
+        due("run(" + n + ")", m.run(n), want);
+        return this;
+    }
+
+    Checks state(int what, int want) {
+        due("state(" + what + ")", m.state(what), want);
+        return this;
+    }
+
+    Checks states(int... wanted) {
+        for (int what = 0; what < wanted.length; what++) {
+            state(what, wanted[what]);
+        }
+        return this;
+    }
+
+    Checks faults(String text, int asClauses, int asQuery) {
+        type(text);
+        due("fault(0) of " + text, m.fault(0), asClauses);
+        due("fault(1) of " + text, m.fault(1), asQuery);
+        return this;
+    }
+
+    Checks value(int v, String want) {
+        due("value(" + v + ")", shown(0, v), want);
+        return this;
+    }
+
+    Checks goal(String want) {
+        due("goal", shown(1, 0), want);
+        return this;
+    }
+
+    Checks listing(int c, String want) {
+        due("listing(" + c + ")", shown(2, c), want);
+        return this;
+    }
+
+    /** A text that the machine shows character by character. */
+    private String shown(int what, int which) {
+        StringBuilder s = new StringBuilder();
+        for (int k = 0; k < 130; k++) {
+            int c = what == 0 ? m.value(which, k) : what == 1 ? m.goal(k) : m.listing(which, k);
+            if (c < 0) {
+                due("the end of a text", c, LogicMachine.NONE);
+                return s.toString();
+            }
+            s.append((char) c);
+        }
+        return s.toString();
+    }
+
+    static void finish(String test) {
+        System.out.println(test + ": " + checked + " answers checked, " + wrong + " wrong");
+        if (wrong != 0) {
+            System.exit(1);
+        }
+    }
+}
