@@ -72,15 +72,17 @@ public final class LogicMachine {
     private static final int SPAN_BITS = 7, SPAN = 128, SPAN_MASK = 127;
     private static final int UNBOUND = -1;
 
-    /** The query, a clause for each inference, and a spare one for listing a clause. */
-    private static final int INSTANCES = INFERENCE_LIMIT + 2;
-    private static final int SPARE = INSTANCES - 1;
-    private static final int CELLS = INSTANCES * SPAN;
-    private static final int SLOTS = INSTANCES * VARIABLE_LIMIT;
+    /** The instance of the query, a spare one for listing a clause, and the first of a called clause. */
+    private static final int QUERY = 0, SPARE = 1, FIRST_CALLED = 2;
+
+    /** No query has more instances than one for each inference; most have few, so rows begin small. */
+    private static final int MOST_INSTANCES = FIRST_CALLED + INFERENCE_LIMIT;
+    private static final int INSTANCES_AT_FIRST = 20, GROWTH = 4;
+    private static final int NO_REF = MOST_INSTANCES * SPAN;
 
     /** No clause has 60 compounds: each takes two characters at least, and a clause more besides. */
-    private static final int COMPOUNDS = INSTANCES * 60;
-    private static final int PENDING = COMPOUNDS + 2 * SLOTS;
+    private static final int COMPOUND_LIMIT = 60;
+    private static final int PENDING_LIMIT = COMPOUND_LIMIT + 2 * VARIABLE_LIMIT;
 
     /** What stands in place of an instance in the frame of a not. */
     private static final int NOT_GOAL = -1, NOT_END = -2;
@@ -1076,14 +1078,14 @@ public final class LogicMachine {
     /** The instances of clauses that are in use, the bindings of their variables, and the trail. */
     private static final class Store {
         private final Clause nothing;
-        private final Clause[] clauses = new Clause[INSTANCES];
-        private final int[] numbers = new int[INSTANCES];
+        private Clause[] clauses = new Clause[0];
+        private int[] numbers = new int[0];
         int used;
 
         /** For each variable what it is bound to, or UNBOUND. */
-        private final int[] bound = new int[SLOTS];
+        private int[] bound = new int[0];
 
-        private final int[] trail = new int[SLOTS];
+        private int[] trail = new int[0];
         int trailed;
 
         /** Instances below this one are older than the newest choice point. */
@@ -1094,32 +1096,44 @@ public final class LogicMachine {
 
         Store(Clause nothing) {
             this.nothing = nothing;
-            Arrays.fill(bound, UNBOUND);
-            for (int i = 0; i < clauses.length; i++) {
-                clauses[i] = nothing;
-            }
         }
 
-        /** Creates the variables of a clause; answers the ref of its first node. */
-        int enter(Clause clause, int number) {
-            int instance = Math.min(used, SPARE - 1);
-            clauses[instance] = clause;
-            numbers[instance] = number;
-            Arrays.fill(bound, instance * VARIABLE_LIMIT, (instance + 1) * VARIABLE_LIMIT, UNBOUND);
-            used = instance + 1;
+        /** Makes room for so many instances. */
+        void grow(int instances) {
+            Clause[] more = new Clause[instances];
+            for (int i = 0; i < more.length; i++) {
+                more[i] = clauseAt(i);
+            }
+            clauses = more;
+            numbers = Arrays.copyOf(numbers, instances);
+            bound = Arrays.copyOf(bound, instances * VARIABLE_LIMIT);
+            trail = Arrays.copyOf(trail, instances * VARIABLE_LIMIT);
+        }
+
+        int capacity() {
+            return clauses.length;
+        }
+
+        /** Puts a clause in use, without bindings; answers the ref of its first node. */
+        int put(int instance, Clause clause, int number) {
+            if (instance >= 0 && instance < clauses.length) {
+                clauses[instance] = clause;
+                numbers[instance] = number;
+                Arrays.fill(bound, instance * VARIABLE_LIMIT, (instance + 1) * VARIABLE_LIMIT, UNBOUND);
+            }
             return instance * SPAN;
         }
 
-        /** Puts a clause where it can be written without bindings; answers the ref of its first node. */
-        int showSpare(Clause clause) {
-            clauses[SPARE] = clause;
-            return SPARE * SPAN;
+        /** Puts one more clause in use. */
+        int enter(Clause clause, int number) {
+            used++;
+            return put(used - 1, clause, number);
         }
 
-        /** Undoes all bindings, and forgets all instances but that of the query. */
+        /** Undoes all bindings, and forgets all instances of called clauses. */
         void reset() {
-            Arrays.fill(bound, 0, VARIABLE_LIMIT, UNBOUND);
-            used = Math.min(used, 1);
+            Arrays.fill(bound, 0, Math.min(VARIABLE_LIMIT, bound.length), UNBOUND);
+            used = FIRST_CALLED;
             trailed = 0;
             older = 0;
         }
@@ -1154,16 +1168,13 @@ public final class LogicMachine {
         /** Follows bindings to a term, or to a variable without a binding. */
         int find(int ref) {
             int found = ref;
-            for (int step = 0; step < SLOTS; step++) {
+            for (int step = 0; step < bound.length; step++) {
                 int node = found & SPAN_MASK;
-                if (found < 0 || found >= CELLS || node >= VARIABLE_LIMIT) {
+                int slot = (found >> SPAN_BITS) * VARIABLE_LIMIT + node;
+                if (found < 0 || node >= VARIABLE_LIMIT || slot >= bound.length || bound[slot] == UNBOUND) {
                     return found;
                 }
-                int binding = bound[(found >> SPAN_BITS) * VARIABLE_LIMIT + node];
-                if (binding == UNBOUND) {
-                    return found;
-                }
-                found = binding;
+                found = bound[slot];
             }
             return found;
         }
@@ -1171,10 +1182,8 @@ public final class LogicMachine {
         /** The number of a variable among all variables, NONE if this is no variable. */
         int slotOf(int ref) {
             int node = ref & SPAN_MASK;
-            if (ref < 0 || ref >= CELLS || node >= VARIABLE_LIMIT) {
-                return NONE;
-            }
-            return (ref >> SPAN_BITS) * VARIABLE_LIMIT + node;
+            int slot = (ref >> SPAN_BITS) * VARIABLE_LIMIT + node;
+            return ref < 0 || node >= VARIABLE_LIMIT || slot >= bound.length ? NONE : slot;
         }
 
         int bindingAt(int slot) {
@@ -1218,28 +1227,35 @@ public final class LogicMachine {
         private final Store store;
 
         /** The compound that a compound was joined with, 0 if none: node 0 is that of a variable. */
-        private final int[] joined = new int[CELLS];
+        private int[] joined = new int[0];
 
         /** The compounds that were joined with others and whose arguments must be made equal. */
-        private final int[] queue;
+        int[] queue = new int[0];
         private int queued;
 
         /** Variables whose new binding may contain themselves. */
-        private final int[] suspects = new int[SLOTS];
+        private int[] suspects = new int[0];
         private int suspectCount;
 
-        private final int[] pending;
+        int[] pending = new int[0];
         private int pendingCount;
 
         /** For each variable whether the search for loops is inside its binding or has left it. */
-        private final int[] marks = new int[SLOTS];
+        private int[] marks = new int[0];
         private int inside;
         private int left;
 
-        Unifier(Store store, int[] queue, int[] pending) {
+        Unifier(Store store) {
             this.store = store;
-            this.queue = queue;
-            this.pending = pending;
+        }
+
+        /** Makes room for so many instances; between two calls the rows hold nothing to be kept. */
+        void grow(int instances) {
+            joined = new int[instances * SPAN];
+            queue = new int[instances * COMPOUND_LIMIT];
+            pending = new int[instances * PENDING_LIMIT];
+            suspects = new int[instances * VARIABLE_LIMIT];
+            marks = new int[instances * VARIABLE_LIMIT];
         }
 
         /** Unifies two terms; the instance that begins at fresh, if there is one, has just been created. */
@@ -1288,7 +1304,7 @@ public final class LogicMachine {
             if (kind != toKind || store.keyOf(from) != store.keyOf(to)) {
                 return false;
             }
-            if (kind == COMPOUND && queued < queue.length) {
+            if (kind == COMPOUND && queued < queue.length && from < joined.length) {
                 joined[from] = to;
                 queue[queued] = from;
                 queued++;
@@ -1298,8 +1314,8 @@ public final class LogicMachine {
 
         private int rootOf(int ref) {
             int found = store.find(ref);
-            for (int step = 0; step < CELLS; step++) {
-                if (found < 0 || found >= CELLS || joined[found] == 0) {
+            for (int step = 0; step < joined.length; step++) {
+                if (found < 0 || found >= joined.length || joined[found] == 0) {
                     return found;
                 }
                 found = joined[found];
@@ -1354,7 +1370,7 @@ public final class LogicMachine {
         }
 
         private void leave(int slot) {
-            if (slot < marks.length) {
+            if (slot >= 0 && slot < marks.length) {
                 marks[slot] = left;
             }
         }
@@ -1374,22 +1390,28 @@ public final class LogicMachine {
         private static final int TASK_BITS = 16, TASK_MASK = 65535;
 
         private final Store store;
-        private final int[] tasks;
+        private int[] tasks = new int[0];
         private int taskCount;
-        private final int[] values;
+        private int[] values = new int[0];
         private int valueCount;
 
         /** The values of variables, and the evaluation in which they were computed. */
-        private final int[] kept = new int[SLOTS];
-        private final int[] keptIn = new int[SLOTS];
+        private int[] kept = new int[0];
+        private int[] keptIn = new int[0];
         private int evaluation;
 
         int result;
 
-        Arithmetic(Store store, int[] tasks, int[] values) {
+        Arithmetic(Store store) {
             this.store = store;
-            this.tasks = tasks;
-            this.values = values;
+        }
+
+        /** Makes room for so many instances, with rows of the unifier: never are both at work. */
+        void grow(int instances, Unifier unifier) {
+            tasks = unifier.pending;
+            values = unifier.queue;
+            kept = new int[instances * VARIABLE_LIMIT];
+            keptIn = new int[instances * VARIABLE_LIMIT];
         }
 
         /** False if the term has no value; otherwise the value is the result. */
@@ -1440,7 +1462,7 @@ public final class LogicMachine {
             if (binding < 0) {
                 return addValue(store.computedAt(binding));
             }
-            if (keptIn[slot] == evaluation) {
+            if (slot < kept.length && keptIn[slot] == evaluation) {
                 return addValue(kept[slot]);
             }
             return addTask(KEEP, slot) && addTask(COMPUTE, binding);
@@ -1556,17 +1578,15 @@ public final class LogicMachine {
         Search(Program program, Clause nothing) {
             this.program = program;
             store = new Store(nothing);
-            // Terms are never unified while a value is computed, so both use the same rows.
-            int[] queue = new int[COMPOUNDS];
-            int[] pending = new int[PENDING];
-            unifier = new Unifier(store, queue, pending);
-            arithmetic = new Arithmetic(store, pending, queue);
-            for (int i = 0; i < frames.length; i++) {
-                frames[i] = new Frame();
-            }
-            for (int i = 0; i < choices.length; i++) {
-                choices[i] = new Choice();
-            }
+            unifier = new Unifier(store);
+            arithmetic = new Arithmetic(store);
+            grow(INSTANCES_AT_FIRST);
+        }
+
+        private void grow(int instances) {
+            store.grow(instances);
+            unifier.grow(instances);
+            arithmetic.grow(instances, unifier);
         }
 
         void begin(Clause query) {
@@ -1580,14 +1600,13 @@ public final class LogicMachine {
             mostChoices = 0;
             Arrays.fill(tried, 0);
             Arrays.fill(matched, 0);
-            store.enter(query, NONE);
-            top = newFrame(0, 0, null, 0);
+            store.put(QUERY, query, NONE);
+            top = newFrame(QUERY, 0, null, 0);
         }
 
         /** There is no query then. */
         void forget() {
             finish(NO_QUERY, 0);
-            store.used = 0;
         }
 
         private void finish(int newStatus, int newError) {
@@ -1638,7 +1657,7 @@ public final class LogicMachine {
             int goal = goalOf(frame);
             dropGoal(frame);
             cutTo = frame.instance == NOT_GOAL ? choiceCount : frame.keep;
-            for (int step = 0; step < CELLS && store.keyOf(goal) == KEY_CALL; step++) {
+            for (int step = 0; step < STEP_LIMIT && store.keyOf(goal) == KEY_CALL; step++) {
                 cutTo = choiceCount;
                 goal = store.find(store.argumentOf(goal, 0));
                 if (!isCallable(store.kindOf(goal), store.keyOf(goal))) {
@@ -1680,7 +1699,7 @@ public final class LogicMachine {
                     keepChoices(cutTo);
                     return true;
                 case SAME:
-                    return unifier.unify(first, second, CELLS);
+                    return unifier.unify(first, second, NO_REF);
                 case LESS:
                     return compare(first, second);
                 case IS:
@@ -1711,7 +1730,7 @@ public final class LogicMachine {
                 finish(ENDED, NO_VALUE);
                 return true;
             }
-            return unifier.unify(target, store.keepComputed(inferences, arithmetic.result), CELLS);
+            return unifier.unify(target, store.keepComputed(inferences, arithmetic.result), NO_REF);
         }
 
         private boolean beginNot(int goal) {
@@ -1746,6 +1765,10 @@ public final class LogicMachine {
                 return;
             }
             Choice choice = choices[choiceCount];
+            if (choice == null) {
+                choice = new Choice();
+                choices[choiceCount] = choice;
+            }
             choice.top = top;
             choice.goal = goal;
             choice.left = candidates;
@@ -1757,18 +1780,19 @@ public final class LogicMachine {
 
         private void keepChoices(int count) {
             choiceCount = count;
-            store.older = count > 0 && count <= choices.length ? choices[count - 1].instances : 0;
+            Choice newest = choiceAt(0);
+            store.older = newest == null ? 0 : newest.instances;
         }
 
         /** Goes to the newest choice point, again and again until a candidate or a not succeeds. */
         private void backtrack() {
             for (int step = 0; step < STEP_LIMIT; step++) {
-                int older = choiceCount - 1;
-                if (older < 0 || older >= choices.length) {
+                Choice choice = choiceAt(0);
+                if (choice == null) {
                     finish(FAILED, 0);
                     return;
                 }
-                Choice choice = choices[older];
+                int older = choiceCount - 1;
                 store.goBack(choice.instances, choice.trailed);
                 framesUsed = choice.framesUsed;
                 top = choice.top;
@@ -1790,6 +1814,9 @@ public final class LogicMachine {
             tries++;
             tried[number]++;
             Clause clause = program.at(number);
+            if (store.used >= store.capacity()) {
+                grow(Math.min(MOST_INSTANCES, store.capacity() * GROWTH));
+            }
             int fresh = store.enter(clause, number);
             if (!unifier.unify(goal, fresh + clause.head, fresh)) {
                 return false;
@@ -1802,7 +1829,12 @@ public final class LogicMachine {
         }
 
         private Frame newFrame(int instance, int next, Frame under, int keep) {
-            Frame frame = frames[Math.min(framesUsed, frames.length - 1)];
+            int place = Math.min(framesUsed, frames.length - 1);
+            Frame frame = frames[place];
+            if (frame == null) {
+                frame = new Frame();
+                frames[place] = frame;
+            }
             framesUsed++;
             frame.instance = instance;
             frame.next = next;
@@ -1832,7 +1864,7 @@ public final class LogicMachine {
         }
 
         boolean hasVariable(int v) {
-            return status != NO_QUERY && v >= 0 && v < store.clauseAt(0).variables;
+            return status != NO_QUERY && v >= 0 && v < store.clauseAt(QUERY).variables;
         }
 
         /** The lowest variable of the query that leads to this variable without a binding. */
@@ -1856,7 +1888,8 @@ public final class LogicMachine {
 
         /** Null if there is no such choice point. */
         Choice choiceAt(int place) {
-            return place < 0 || place >= choiceCount ? null : choices[choiceCount - 1 - place];
+            int index = choiceCount - 1 - place;
+            return place < 0 || index < 0 || index >= choices.length ? null : choices[index];
         }
 
         int numberOf(int what) {
@@ -1908,8 +1941,9 @@ public final class LogicMachine {
 
         private int countBarriers() {
             int count = 0;
-            for (int i = 0; i < choiceCount && i < choices.length; i++) {
-                count += choices[i].isBarrier() ? 1 : 0;
+            for (int place = 0; place < choiceCount; place++) {
+                Choice choice = choiceAt(place);
+                count += choice != null && choice.isBarrier() ? 1 : 0;
             }
             return count;
         }
@@ -1944,7 +1978,7 @@ public final class LogicMachine {
         }
 
         void addClause(Clause clause) {
-            int base = store.showSpare(clause);
+            int base = store.put(SPARE, clause, NONE);
             addTerm(base + clause.head);
             for (int g = 0; g < clause.goals.length; g++) {
                 if (g == 0) {

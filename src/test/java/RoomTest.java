@@ -17,7 +17,7 @@ public final class RoomTest {
         LogicMachine m = new LogicMachine();
         long bytes = allocated() - before;
         System.out.println("RoomTest: a new object allocates " + bytes + " bytes");
-        c.due("room for a new object", bytes <= 1 << 20 && m.told(0) == 0 ? 1 : 0, 1);
+        c.due("room for a new object", bytes <= 1 << 16 && m.told(0) == 0 ? 1 : 0, 1);
         Checks.finish("RoomTest");
     }
 
