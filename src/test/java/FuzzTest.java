@@ -31,6 +31,7 @@ public final class FuzzTest {
     private final LogicMachine machine = new LogicMachine();
     private final Oracle oracle = new Oracle();
     private final StringBuilder log = new StringBuilder();
+    private int known;
     static long compared;
 
     private FuzzTest(long seed) {
@@ -181,8 +182,8 @@ public final class FuzzTest {
                 done("undo()", machine.undo(), oracle.undo());
                 break;
             default:
-                int known = random.nextInt(KNOWN.length);
-                String text = random.nextInt(3) == 0 ? KNOWN[known] : clauses();
+                known = random.nextInt(KNOWN.length);
+                String text = random.nextInt(3) != 0 ? KNOWN[known] : clauses();
                 type(random.nextInt(4) == 0 ? spoil(text) : text);
                 compareFaults();
                 done("consult()", machine.consult(), oracle.consult());
@@ -191,7 +192,8 @@ public final class FuzzTest {
     }
 
     private void query() {
-        String text = random.nextInt(3) == 0 ? pick(ASKED) : goals() + ".";
+        int kind = random.nextInt(6);
+        String text = kind < 2 ? ASKED[known] : kind == 2 ? pick(ASKED) : goals() + ".";
         type(random.nextInt(5) == 0 ? spoil(text) : text);
         compareFaults();
         done("ask()", machine.ask(), oracle.ask());
@@ -209,7 +211,7 @@ public final class FuzzTest {
 
     private void runAll() {
         if (random.nextInt(2) == 0) {
-            int known = random.nextInt(KNOWN.length);
+            known = random.nextInt(KNOWN.length);
             type(KNOWN[known]);
             done("consult()", machine.consult(), oracle.consult());
             type(ASKED[known]);

@@ -12,6 +12,7 @@ public final class PromisesTest {
         faultOfPlaces();
         faultOfHeads();
         faultOfCounts();
+        faultOfFullTexts();
         consult();
         retract();
         move();
@@ -246,6 +247,26 @@ public final class PromisesTest {
         c.faults(" b.", 1, NONE);
     }
 
+    /** Nothing of an earlier text, and nothing behind the last character, is looked at. */
+    private static void faultOfFullTexts() {
+        Checks c = new Checks("promise 4, full texts");
+        String spaces = " ".repeat(120);
+        for (String end : new String[] {"true", "p", "p(", "p(X", "p(12", "p(123456", "p(1234567", "p:", "p:-", "p(["}) {
+            String text = spaces.substring(end.length()) + end;
+            int start = 120 - end.length();
+            boolean isLong = end.endsWith("7");
+            c.faults(text, end.equals("true") ? start : end.equals("p:") ? 119 : isLong ? 113 : 120,
+                    end.startsWith("p:") ? start + 1 : isLong ? 113 : 120);
+        }
+        c.faults(spaces, NONE, 120);
+        c.faults(spaces.substring(2) + "p.", NONE, NONE);
+        c.type("true(X).").faults("true", 0, 4);
+        c.type("p:-q.").faults("p:", 1, 1);
+        c.type("p(123456).").faults("p(123", 5, 5);
+        c.type("pqrstu.").faults("pq", 2, 2);
+        c.type("p.q.").faults("p", 1, 1);
+    }
+
     private static void consult() {
         Checks c = new Checks("promise 5");
         c.consult("", 0);
@@ -263,6 +284,14 @@ public final class PromisesTest {
         c.consult("a.".repeat(16), 16).state(0, 0);
         c.consult("", 0);
         c.consult("a.", STATE);
+        Checks d = new Checks("promise 5, the largest clauses");
+        String items = "1,".repeat(56) + "1";
+        d.consult("p([" + items + "]).", 1).listing(0, "p([" + items + "]).");
+        d.ask("p([" + items + "]).", 1).run(1, 2);
+        d.ask("p([" + items.substring(0, 110) + "2|X]).", 1).run(1, 3);
+        String deep = "p(" + "[".repeat(57) + "]".repeat(57) + ").";
+        d.consult(deep, 1).listing(1, deep);
+        d.ask(deep, 1).run(1, 2).state(9, 2);
     }
 
     private static void retract() {
@@ -668,6 +697,8 @@ public final class PromisesTest {
         c.ask("p(X),m(Y,Z).", 2).run(300, 2).states(2, 5, 1, 0, 0, 0, 1, 0, 3);
         c.due("choice(0, 3)", c.m.choice(0, 3), 3);
         c.run(300, 2).states(2, 9, 2, 0, 0, 0, 0, 0, 1).value(0, "2").value(2, "3");
+        c.ask("p(X).", 1).run(1, 2).state(6, 1).state(8, 1);
+        c.ask("same(X,1),same(Y,X).", 2).state(6, 0).state(8, 0).run(300, 2).state(8, 0);
     }
 
     private static void variable() {

@@ -14,6 +14,7 @@ public final class StressTest {
         manyBarriers();
         fullProgram();
         manyTriesOfLargeTerms();
+        loopsAfterManyBindings();
         Checks.finish("StressTest");
     }
 
@@ -150,6 +151,15 @@ public final class StressTest {
             c.m.run(300);
         }
         c.state(0, 3);
+    }
+
+    /** Loops are found however many variables were bound to compounds before. */
+    private static void loopsAfterManyBindings() {
+        Checks c = new Checks("loops after many bindings");
+        c.consult("p(0).p(N):-less(0,N),same(f(A,B,C),f([B],[C],[D])),is(M,sub(N,1)),p(M).", 2);
+        c.ask("p(70),same(X,f(X)).", 2).run(300, 3).state(1, 283);
+        c.ask("p(70),same(f(X,Y),f(g(Y),g(X))).", 2).run(300, 3).state(1, 283);
+        c.ask("p(70),not(same(X,f(X))).", 2).run(300, 2);
     }
 
     /** Each of 20 clauses fails only after large lists have been compared. */
