@@ -73,6 +73,72 @@ class Checks {
         return this;
     }
 
+    Checks fault(int how, int want) {
+        due("fault(" + how + ")", m.fault(how), want);
+        return this;
+    }
+
+    Checks told(int what, int want) {
+        due("told(" + what + ")", m.told(what), want);
+        return this;
+    }
+
+    Checks clause(int c, int what, int want) {
+        due("clause(" + c + ", " + what + ")", m.clause(c, what), want);
+        return this;
+    }
+
+    Checks overlaps(int c, int want) {
+        due("overlaps(" + c + ")", m.overlaps(c), want);
+        return this;
+    }
+
+    Checks reaches(int c, int d, int want) {
+        due("reaches(" + c + ", " + d + ")", m.reaches(c, d), want);
+        return this;
+    }
+
+    Checks retract(int c, int want) {
+        due("retract(" + c + ")", m.retract(c), want);
+        return this;
+    }
+
+    Checks move(int c, int to, int want) {
+        due("move(" + c + ", " + to + ")", m.move(c, to), want);
+        return this;
+    }
+
+    Checks undo(int want) {
+        due("undo()", m.undo(), want);
+        return this;
+    }
+
+    Checks stop(int want) {
+        due("stop()", m.stop(), want);
+        return this;
+    }
+
+    Checks variable(int v, int what, int want) {
+        due("variable(" + v + ", " + what + ")", m.variable(v, what), want);
+        return this;
+    }
+
+    /** The properties of a frame, from the first one on. */
+    Checks frame(int f, int... wanted) {
+        for (int what = 0; what < wanted.length; what++) {
+            due("frame(" + f + ", " + what + ")", m.frame(f, what), wanted[what]);
+        }
+        return this;
+    }
+
+    /** The properties of a choice point, from the first one on. */
+    Checks choice(int p, int... wanted) {
+        for (int what = 0; what < wanted.length; what++) {
+            due("choice(" + p + ", " + what + ")", m.choice(p, what), wanted[what]);
+        }
+        return this;
+    }
+
     Checks faults(String text, int asClauses, int asQuery) {
         type(text);
         due("fault(0) of " + text, m.fault(0), asClauses);
@@ -107,6 +173,10 @@ class Checks {
             s.append((char) c);
         }
         return s.toString();
+    }
+
+    static int wrong() {
+        return wrong;
     }
 
     static void finish(String test) {
