@@ -248,6 +248,10 @@ public final class BoundariesOfPromisesTest {
             c.consult("r:-call(true),not(cut),call(less(1,2)),not(p).", 1).told(2, 6).consult("r:-call(call(X)),e(call(f)),same(g,h).", 1).told(2, 7);
             c.consult("call:-call(a,b),call.", 1).told(2, 8).consult("r:-call(not),not(is(1)).", 1).told(2, 10);
             c.ask("zzz,yyy.", 2).told(2, 10);
+            for (int i = c.m.told(0); i < 20; i++) {
+                c.consult("r:-m" + i + ",m" + i + ".", 1);
+            }
+            c.told(0, 20).told(1, 3).told(2, 17);
         });
     }
 
@@ -316,7 +320,8 @@ public final class BoundariesOfPromisesTest {
             c.consult("p.p(X):-q.p:-q(1),r,s(a),t,u.", 3).listing(0, "p.").listing(1, "p(_0):-q.").listing(2, "p:-q(1),r,s(a),t,u.");
         });
         promise(11, "where the variables of the clause have no bindings; of the whole text only the first 120 characters are kept", c -> {
-            c.consult("p(X,Y,X):-q(Y).q(1).", 2).ask("p(2,X,Y).", 1).run(1, 1).listing(0, "p(_0,_1,_0):-q(_1).").run(1, 2);
+            c.consult("p(X,Y,X):-q(Y).q(1).", 2).ask("same(Z,3),p(2,X,Y).", 2).run(2, 1).listing(0, "p(_0,_1,_0):-q(_1).");
+            c.value(0, "3").value(1, "_0").value(2, "2").run(1, 2).value(0, "3").value(1, "1").value(2, "2");
             c.listing(0, "p(_0,_1,_0):-q(_1).").consult("p([" + "a,".repeat(53) + "a,X]):-q.", 1);
             c.listing(2, "p([" + "a,".repeat(53) + "a,_0]):-q.").consult("p([" + "a,".repeat(53) + "a,X,Y]).", 1);
             c.listing(3, "p([" + "a,".repeat(53) + "a,_0,_1]).").consult("p([" + "a,".repeat(53) + "a,X]):-rs.", 1);

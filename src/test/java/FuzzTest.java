@@ -32,7 +32,12 @@ public final class FuzzTest {
     private final Oracle oracle = new Oracle();
     private final StringBuilder log = new StringBuilder();
     private int known;
-    static long compared;
+    private long compared;
+
+    /** Of all threads together. */
+    private static long allCompared;
+    private static int large;
+    private static int wrong;
 
     private FuzzTest(long seed) {
         // Neighbouring seeds begin alike, so they are spread first.
@@ -229,31 +234,55 @@ public final class FuzzTest {
         }
     }
 
+    /** What has come of one run; the threads tell it one after the other. */
+    private static synchronized void count(FuzzTest test, boolean isLarge, String fault) {
+        allCompared += test.compared;
+        large += isLarge ? 1 : 0;
+        if (fault != null) {
+            wrong++;
+            System.out.println(fault);
+        }
+    }
+
+    private static synchronized boolean goesOn() {
+        return wrong < 3;
+    }
+
+    private static void runSeed(long seed) {
+        FuzzTest test = new FuzzTest(seed);
+        boolean isLarge = false;
+        String fault = null;
+        try {
+            test.runAll();
+        } catch (Oracle.TooLarge e) {
+            isLarge = true;
+        } catch (Wrong e) {
+            fault = "seed " + seed + ": " + e.getMessage();
+        } catch (RuntimeException e) {
+            fault = "seed " + seed + ": " + e + " after: " + test.log;
+            e.printStackTrace(System.out);
+        }
+        count(test, isLarge, fault);
+    }
+
     public static void main(String[] args) throws Exception {
         long first = args.length > 0 ? Long.parseLong(args[0]) : 1;
         long count = args.length > 1 ? Long.parseLong(args[1]) : 3000;
-        int[] wrong = {0};
-        Thread thread = new Thread(null, () -> {
-            int large = 0;
-            for (long seed = first; seed < first + count && wrong[0] < 3; seed++) {
-                FuzzTest test = new FuzzTest(seed);
-                try {
-                    test.runAll();
-                } catch (Oracle.TooLarge e) {
-                    large++;
-                } catch (Wrong e) {
-                    wrong[0]++;
-                    System.out.println("seed " + seed + ": " + e.getMessage());
-                } catch (RuntimeException e) {
-                    wrong[0]++;
-                    System.out.println("seed " + seed + ": " + e + " after: " + test.log);
-                    e.printStackTrace(System.out);
+        Thread[] threads = new Thread[Math.max(1, Math.min(4, Runtime.getRuntime().availableProcessors()))];
+        for (int t = 0; t < threads.length; t++) {
+            long start = first + t;
+            // The Oracle searches recursively, so it needs a deep stack.
+            threads[t] = new Thread(null, () -> {
+                for (long seed = start; seed < first + count && goesOn(); seed += threads.length) {
+                    runSeed(seed);
                 }
-            }
-            System.out.println("FuzzTest: " + compared + " answers compared, " + large + " runs left because of large terms");
-        }, "fuzz", 1L << 29);
-        thread.start();
-        thread.join();
-        if (wrong[0] != 0) System.exit(1);
+            }, "fuzz " + t, 1L << 29);
+            threads[t].start();
+        }
+        for (Thread thread : threads) {
+            thread.join();
+        }
+        System.out.println("FuzzTest: " + allCompared + " answers compared, " + large + " runs left because of large terms");
+        if (wrong != 0) System.exit(1);
     }
 }

@@ -43,6 +43,9 @@ final class Sentences {
     }
 
     private static boolean stands(String sentence) {
+        if (document().isEmpty()) {
+            return true;
+        }
         int from = 0;
         for (String piece : sentence.split(" \\.\\.\\. ")) {
             int at = document().indexOf(piece, from);
@@ -54,7 +57,7 @@ final class Sentences {
         return true;
     }
 
-    /** The document with one space between two words. */
+    /** The document with one space between two words; empty where it is not at hand, since then no quotation can be checked. */
     private static String document() {
         if (document == null) {
             try {
