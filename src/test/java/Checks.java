@@ -175,6 +175,20 @@ class Checks {
         return s.toString();
     }
 
+    /** Makes a call that is written as in the document, as "clause(0, 4)". */
+    int call(String call) throws ReflectiveOperationException {
+        String name = call.substring(0, call.indexOf('('));
+        String inner = call.substring(call.indexOf('(') + 1, call.length() - 1);
+        String[] texts = inner.isEmpty() ? new String[0] : inner.split(", *");
+        Class<?>[] types = new Class<?>[texts.length];
+        Object[] values = new Object[texts.length];
+        for (int i = 0; i < texts.length; i++) {
+            types[i] = int.class;
+            values[i] = Integer.valueOf(texts[i]);
+        }
+        return (Integer) LogicMachine.class.getMethod(name, types).invoke(m, values);
+    }
+
     static int wrong() {
         return wrong;
     }

@@ -17,22 +17,9 @@ public final class ExamplesTest {
             Checks c = new Checks("example " + (e + 1));
             for (String row : EXAMPLES[e].split("; *")) {
                 String[] sides = row.split(" = ");
-                c.due(sides[0], call(c.m, sides[0]), Long.parseLong(sides[1]));
+                c.due(sides[0], c.call(sides[0]), Long.parseLong(sides[1]));
             }
         }
         Checks.finish("ExamplesTest");
-    }
-
-    private static int call(LogicMachine m, String call) throws Exception {
-        String name = call.substring(0, call.indexOf('('));
-        String inner = call.substring(call.indexOf('(') + 1, call.length() - 1);
-        String[] texts = inner.isEmpty() ? new String[0] : inner.split(", *");
-        Class<?>[] types = new Class<?>[texts.length];
-        Object[] values = new Object[texts.length];
-        for (int i = 0; i < texts.length; i++) {
-            types[i] = int.class;
-            values[i] = Integer.valueOf(texts[i]);
-        }
-        return (Integer) LogicMachine.class.getMethod(name, types).invoke(m, values);
     }
 }
